@@ -1,3 +1,4 @@
+import java.util.Arrays;
 import java.util.NoSuchElementException;
 
 /**
@@ -716,9 +717,7 @@ public final class GateLifter {
             exit = count - 1;
             arcs = 0;
             open = 0;
-            for (int v = 0; v < MOST_NODES; v++) {
-                put(tolls, v, 1);
-            }
+            Arrays.fill(tolls, 1);
         }
 
         void copy(Net other) {
@@ -802,9 +801,7 @@ public final class GateLifter {
 
         /** For each node the set of those to which open arcs go from it, one arc left out (or NONE). */
         void fill(int[] next, int leftOut) {
-            for (int v = 0; v < MOST_NODES; v++) {
-                put(next, v, 0);
-            }
+            Arrays.fill(next, 0);
             for (int i = 0; i < arcs && i < MOST_ARCS; i++) {
                 if (i != leftOut && isOpen(i)) {
                     int a = at(from, i);
@@ -866,9 +863,7 @@ public final class GateLifter {
         /** Weighs the ways that next tells, from a start (a set of one, or of none). */
         void weigh(int start) {
             reached = spread(next, start, 0);
-            for (int v = 0; v < MOST_NODES; v++) {
-                put(gates, v, 0);
-            }
+            Arrays.fill(gates, 0);
             for (int gate = 0; gate < MOST_NODES; gate++) {
                 int lost = 0;
                 if (has(reached, gate)) {
@@ -1003,12 +998,8 @@ public final class GateLifter {
         private final int[] parents = new int[SPOTS];
 
         void clear() {
-            for (int i = 0; i < rooms.length; i++) {
-                put(rooms, i, 0);
-            }
-            for (int i = 0; i < roomy.length; i++) {
-                put(roomy, i, 0);
-            }
+            Arrays.fill(rooms, 0);
+            Arrays.fill(roomy, 0);
         }
 
         /** Changes the room from a spot to another one. */
@@ -1256,9 +1247,7 @@ public final class GateLifter {
 
         /** Settles reached nodes one by one, the cheapest first. */
         int fare(int node) {
-            for (int v = 0; v < MOST_NODES; v++) {
-                put(fares, v, NONE);
-            }
+            Arrays.fill(fares, NONE);
             put(fares, net.root, at(net.tolls, net.root));
             int unsettled = facts.reached;
             for (int i = 0; i < MOST_NODES; i++) {
@@ -1444,7 +1433,7 @@ public final class GateLifter {
             if (!isReached(from)) {
                 return KIND_UNREACHED;
             }
-            if (has(upTo(from), to)) {
+            if (from == to || has(at(facts.gates, from), to)) {
                 return KIND_BACK;
             }
             return at(facts.keeper, to) == from ? KIND_KEEPER : KIND_ELSE;
@@ -1462,7 +1451,8 @@ public final class GateLifter {
 
         /** Who would be lost by the shut of an arc; nobody by one that is shut. */
         int lostBy(int arc) {
-            if (!net.isOpen(arc)) {
+            // an arc that each way to its end uses begins at the nearest gate of its end
+            if (kind(arc) != KIND_KEEPER) {
                 return 0;
             }
             net.fill(trial.next, arc);
@@ -1577,9 +1567,7 @@ public final class GateLifter {
 
         /** The two of the greatest lift, as one number; NONE if nobody would be lifted. */
         int bestPair() {
-            for (int i = 0; i < lifts.length; i++) {
-                put(lifts, i, 0);
-            }
+            Arrays.fill(lifts, 0);
             for (int gate = 0; gate < MOST_NODES; gate++) {
                 if (isReached(gate)) {
                     addLifts(gate);
