@@ -384,7 +384,7 @@ public final class GateLifter {
         if (what == 0) {
             return worst;
         }
-        return worst == NONE ? 0 : Integer.bitCount(study.lostBy(worst));
+        return Integer.bitCount(study.lostBy(worst));
     }
 
     public int would(int from, int to, int what) throws IndexOutOfBoundsException, NoSuchElementException {

@@ -77,6 +77,13 @@ public final class PromisesTest {
         }
     }
 
+    /** Each question as the first one behind the acts. */
+    private static void dueFirst(String text, int what, int... want) {
+        for (int v = 0; v < want.length; v++) {
+            Check.due("first node(" + v + ", " + what + ")", of(text).node(v, what), want[v]);
+        }
+    }
+
     // ---- promises 1 to 5
 
     private static void newObject() {
@@ -197,9 +204,13 @@ public final class PromisesTest {
             "lay 0 8", "lay 0 8,1 x", "shut 60", "shut 0", "open 0 1", "lay 0 1;shut 0,0", "lay 0 1;open 0",
             "toll 0 100", "toll 0 1", "toll 0 2,1 3", "root 1,2", "lay 0 1; ", "lay 0 1;;", "lay 0 1\t",
             "lay 0 1;shutt 0", "lay 0 1 net 3", "lay 0\u00e91", fourteen, fourteen + " ", fourteen + "x",
-            fourteen + " exit 6", fourteen + ";", "lay 0 100000000000", "net 4;root 4", "net 3 ; lay 0 2,0 3"};
+            fourteen + " exit 6", fourteen + ";", "lay 0 100000000000", "net 4;root 4", "net 3 ; lay 0 2,0 3",
+            "layz 0 1", "laya 0 1", "lay`0 1", "lay{0 1", "lay 0/1", "lay 0:1", "root 15", "exit 15", "exit 16",
+            "lay 15 0", "lay 16 0", "lay 0 15", "toll 15 0", "toll 16 0", "toll 0 99 9", "open 59", "open 60",
+            "shut 59"};
         int[] faults = {4, 4, 5, 3, 4, 0, 0, 4, 0, 0, 5, 0, 0, 5, 1, 6, 8, 8, 8, 0, 10, 5, 0, 0, 8, 8, 7, 0, 8, 6,
-            9, 8, 7, 8, 8, 5, 98, 99, 98, 99, 98, 6, 6, 8};
+            9, 8, 7, 8, 8, 5, 98, 99, 98, 99, 98, 6, 6, 8,
+            0, 0, 3, 3, 5, 5, 0, 0, 5, 0, 4, 0, 0, 5, 10, 0, 5, 0};
         for (int i = 0; i < texts.length; i++) {
             dueFault(texts[i], faults[i]);
         }
@@ -424,6 +435,8 @@ public final class PromisesTest {
         dueNodes(x, 6, 0, 2, 16, 16, 2, 32, 0, 0);
         dueNodes(x, 7, 0, 30, 0, 0, 0, 32, 0, 0);
         dueNodes(x, 8, 0, 1, 1, 1, 1, 1, 0, 0);
+        dueFirst(SAMPLE, 7, 0, 30, 0, 0, 0, 32, 0, 0);
+        dueFirst(SAMPLE, 8, 0, 1, 1, 1, 1, 1, 0, 0);
         Check.dueThrow("node(8, 0)", NO_INDEX, () -> x.node(8, 0));
         Check.dueThrow("node(-1, 0)", NO_INDEX, () -> x.node(-1, 0));
         Check.dueThrow("node(8, 22)", NO_INDEX, () -> x.node(8, 22));
@@ -442,6 +455,9 @@ public final class PromisesTest {
         dueNodes(x, 17, 0, 12, 0, 0, 18, 32, 0, 0);
         dueNodes(x, 18, 1, 30, 30, 30, 30, 32, 0, 0);
         dueNodes(x, 21, 1, 18, 4, 8, 18, 32, 0, 0);
+        dueFirst(SAMPLE, 10, 1, 4, 4, 4, 5, -1, -1, -1);
+        dueFirst(SAMPLE, 11, 50, 48, 48, 48, 32, 0, 0, 0);
+        dueFirst(SAMPLE, 17, 0, 12, 0, 0, 18, 32, 0, 0);
         x.tell(7, true);
         dueNodes(x, 10, -1, -1, -1, -1, -1, -1, -1, -1);
         dueNodes(x, 11, 0, 0, 0, 0, 0, 0, 0, 0);
@@ -470,7 +486,10 @@ public final class PromisesTest {
 
     private static void innerAndOuter() {
         // 2 and 3 in a loop, in one of 1 to 3; 4 with an arc to itself; 5, 6 in one more
-        GateLifter x = of("lay 0 1,1 2,2 3,3 2,3 1,3 4,4 4,4 5,5 6,6 5,6 0");
+        String nested = "lay 0 1,1 2,2 3,3 2,3 1,3 4,4 4,4 5,5 6,6 5,6 0";
+        GateLifter x = of(nested);
+        dueFirst(nested, 19, 0, 1, 2, 2, 4, 5, 5, -1);
+        dueFirst(nested, 20, -1, 0, 1, 1, 0, 0, 0, -1);
         dueNodes(x, 7, 127, 14, 12, 0, 16, 96, 0, 0);
         dueNodes(x, 8, 1, 2, 3, 3, 2, 2, 2, 0);
         dueNodes(x, 19, 0, 1, 2, 2, 4, 5, 5, -1);
@@ -774,6 +793,9 @@ public final class PromisesTest {
         int[] counts = {8, 0, 5, 9, 9, 63, 3, 34, 2, 4, 1, 10, 44, 1, 0, 6, 3, 10, 3};
         for (int what = 0; what < counts.length; what++) {
             Check.due("count(" + what + ")", x.count(what), counts[what]);
+        }
+        for (int what = 0; what < counts.length; what++) {
+            Check.due("first count(" + what + ")", of(SAMPLE).count(what), counts[what]);
         }
         for (int what : new int[] {-1, 19, Integer.MIN_VALUE, Integer.MAX_VALUE}) {
             Check.due("count(" + what + ")", x.count(what), -1);
