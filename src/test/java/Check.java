@@ -7,8 +7,16 @@ final class Check {
 
     private static int wrong = 0;
     private static int seen = 0;
+    private static int sentences = 0;
+    private static String sentence = "";
 
     private Check() {
+    }
+
+    /** The sentence of the document that the next answers come from. */
+    static void sentence(String words) {
+        sentences++;
+        sentence = words + ": ";
     }
 
     static void due(String call, long got, long want) {
@@ -20,6 +28,13 @@ final class Check {
 
     static void due(String call, boolean got, boolean want) {
         due(call, got ? 1 : 0, want ? 1 : 0);
+    }
+
+    static void due(String call, String got, String want) {
+        seen++;
+        if (!got.equals(want)) {
+            tell(call + " answered " + got + ", due is " + want);
+        }
     }
 
     /** That a call throws just this exception. */
@@ -37,12 +52,13 @@ final class Check {
     private static void tell(String line) {
         wrong++;
         if (wrong <= 50) {
-            System.out.println(line);
+            System.out.println(sentence + line);
         }
     }
 
     static void finish() {
-        System.out.println(wrong == 0 ? seen + " answers are as due" : wrong + " answers are not as due");
+        String of = sentences == 0 ? "" : " of " + sentences + " sentences";
+        System.out.println(wrong == 0 ? seen + " answers" + of + " are as due" : wrong + " answers are not as due");
         if (wrong != 0) {
             System.exit(1);
         }

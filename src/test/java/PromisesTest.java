@@ -52,23 +52,15 @@ public final class PromisesTest {
     }
 
     private static GateLifter of(String text) {
-        GateLifter x = new GateLifter();
-        Texts.put(x, text);
-        x.acts();
-        return x;
+        return Texts.of(text);
     }
 
     private static void read(GateLifter x, String text) {
-        Texts.put(x, text);
-        Check.due("acts '" + text + "'", acts(x), -1);
+        Check.due("acts '" + text + "'", Texts.tell(x, text), -1);
     }
 
     private static int acts(GateLifter x) {
-        try {
-            return x.acts();
-        } catch (IllegalArgumentException e) {
-            return -1;
-        }
+        return Texts.acts(x);
     }
 
     private static void dueNodes(GateLifter x, int what, int... want) {
