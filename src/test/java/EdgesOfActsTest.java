@@ -333,7 +333,7 @@ public final class EdgesOfActsTest {
     // ---- what is taken back
 
     private static void takenBack() {
-        Check.sentence("TAKEN BACK: the latest ACT that was done by a call and not refused, not taken back yet: "
+        Check.sentence("TAKEN BACK: the latest ACT that was done by a call and not refused, not taken back yet ...: "
                 + "all is as ahead of it ... how many ACTS are remembered then");
         GateLifter x = Texts.of("lay 0 1,1 2,2 3,3 1,1 5;exit 3;toll 2 7");
         String[] states = new String[7];
@@ -559,7 +559,7 @@ public final class EdgesOfActsTest {
     // ---- the image
 
     private static void imageOfAll() {
-        Check.sentence("THE IMAGE of all may be kept, and gone back to");
+        Check.sentence("THE IMAGE ... of all may be kept, and gone back to");
         GateLifter x = Texts.of("net 9;lay 0 1,1 2,2 8,8 8,1 2;shut 4;root 1;exit 3;toll 8 80");
         x.tell(4, true);
         String before = State.ofNet(x);

@@ -85,7 +85,7 @@ public final class EdgesOfAnswersTest {
     }
 
     private static void gatesAndKeeper() {
-        Check.sentence("KEEPER: ... none of ROOT ... DEPTH (NONE, if it is not REACHED) ... GATES, NODES that it KEEPS, as bits");
+        Check.sentence("KEEPER: ... none of ROOT ... DEPTH (NONE, if it is not REACHED) ... GATES ... NODES that it KEEPS ... as bits");
         GateLifter x = of("net 5;lay 0 1,1 0,1 2,4 2,4 3,3 4");
         due(x, 1, -1, 0, 1, -1, -1);
         due(x, 2, 0, 1, 2, -1, -1);
@@ -740,7 +740,7 @@ public final class EdgesOfAnswersTest {
         for (int what : new int[] {-1, 19, 20, MIN, MAX}) {
             Check.due("count(" + what + ")", of(ROW).count(what), -1);
         }
-        Check.sentence("the greatest DEPTH ... all DEPTHS, together, REACHED NODES that KEEP none, as bits");
+        Check.sentence("the greatest DEPTH ... all DEPTHS, together ... REACHED NODES that KEEP none, as bits");
         GateLifter row = of(ROW);
         int[] counts = {16, 15, 0, 15, 15, ALL, 15, 0, 0, 15, 1, 120, 1, 0, 0, 120, 16, 16, 0};
         for (int what = 0; what < counts.length; what++) {
@@ -795,7 +795,7 @@ public final class EdgesOfAnswersTest {
     }
 
     private static void noLeastNet() {
-        Check.sentence("NODES 2 to 16 ... (the least net)");
+        Check.sentence("NODES 2 to 16");
         GateLifter x = of("net 2;lay 0 1,1 0,1 1");
         int[][] nodes = {{1, -1, 0, 0, 2, 2, 1, 3, 1, 0, 1, 2, 99, -1, 1, 1, 1, 0, 3, 0, -1, 1},
             {1, 0, 1, 1, 0, 0, 3, 2, 2, 1, -1, 0, 1, -1, 1, 2, 2, 3, 3, 1, 0, 2}};
